@@ -12,6 +12,8 @@ public final class PricesTest {
         round();
         rests();
         ringByLaw();
+        restsAfterEachChange();
+        wholeTown();
         oneShopForbidden();
         refused();
         DUE.end();
@@ -207,6 +209,74 @@ public final class PricesTest {
         isRing(x, "by law", 0, 2, 0, 2, 1);
         DUE.is("26: by law one", x.rest(-1), 1);
         DUE.is("26: by law", x.rest(0), 201);
+    }
+
+    private static void areRests(SugarBelow x, String name, int many, int first) {
+        DUE.is("26: " + name + ", how many", x.rest(-1), many);
+        DUE.is("26: " + name + ", the first", x.rest(0), first);
+    }
+
+    /** What was reckoned for one town must not be told of the next; nobody ever goes to SHOP 1. */
+    private static void restsAfterEachChange() {
+        SugarBelow x = new SugarBelow();
+        x.thing(0, 0, 5);
+        x.step(0, 7);
+        x.sort(1, 14, 99, 0);
+        Due.write(x, 0, "a1<20;b1<50");
+        areRests(x, "they come at 5 alone", 2, 0);
+        x.image(0);
+        x.thing(0, 0, 8);
+        areRests(x, "with b they come at 7, too", 2, 100);
+        x.step(0, 9);
+        areRests(x, "and at 9", 3, 200);
+        x.step(1, 40);
+        areRests(x, "and with b at 40", 6, 500);
+        x.set(0, 1, 1, 0);
+        areRests(x, "no b a head: at 5 again", 12, 0);
+        x.set(0, 0, 0, 6);
+        areRests(x, "who comes at 5 costs", 24, 200);
+        Due.write(x, 0, "a1<20~1");
+        areRests(x, "they take it for 1", 12, 400);
+        x.show(0, 1);
+        areRests(x, "it is in the window", 24, 200);
+        x.change(0, 1, 0);
+        areRests(x, "it is not far", 12, 400);
+        x.change(0, 3, 2);
+        areRests(x, "below cost alone", 24, 200);
+        x.sort(1, 0, 99, 0);
+        areRests(x, "some who want nothing", 24, 200);
+        Due.write(x, 1, "a1<9");
+        areRests(x, "some who come at 7", 12, 200);
+        x.set(1, 0, 2, 2);
+        areRests(x, "where it stands does not matter", 12, 200);
+        x.restore(0);
+        areRests(x, "as at first", 2, 0);
+        isRing(x, "as at first", 1, 0, 0, 0, 0);
+    }
+
+    /** Four things of three steps: 81 ROWS, nobody buys. */
+    private static void wholeTown() {
+        SugarBelow x = new SugarBelow();
+        for (int thing = 0; thing < 4; thing++) {
+            x.thing(1, 1, 1);
+            x.step(thing, 2);
+            x.step(thing, 3);
+            x.set(0, thing, 2, 2);
+            x.set(1, thing, 2, 2);
+        }
+        DUE.is("39: rows", x.told(5), 81);
+        DUE.is("19: the last row", x.row(0), 80);
+        isRing(x, "all stay", 1, 0, 0, 80, 80);
+        DUE.is("26: all pairs", x.rest(-1), 81 * 81);
+        DUE.is("26: the last pair", x.rest(81 * 81 - 1), 8080);
+        DUE.is("26: and no more", x.rest(81 * 81), -6);
+        DUE.is("20: best", x.best(0), 0);
+        x.sort(2, 0, 0, 1);
+        Due.write(x, 0, "a1<9;b1<9;c1<9;d1<9");
+        // SHOP 0 sells all at 3; with one thing at 2, a first, they come to SHOP 1 and buy all there
+        DUE.is("20: against 3", x.best(1), 27 + 2 * 9 + 2 * 3 + 2);
+        DUE.is("21: against 3", x.most(1, 0), 2 * (1 + 3 * 2));
+        DUE.is("20: of like sums they come to shop 0", x.best(0), 80);
     }
 
     private static void oneShopForbidden() {

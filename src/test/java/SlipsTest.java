@@ -144,6 +144,7 @@ public final class SlipsTest {
         DUE.is("36: no thing", x.edge(0, 1), -1);
         DUE.is("36: no thing -1", x.edge(0, -1), -1);
         edgeOfLikeOnes();
+        edgeAtTheTop();
     }
 
     /** BEST turns at a COST one lower and at one higher alike. */
@@ -168,6 +169,20 @@ public final class SlipsTest {
         // so dear that each one who comes costs: the fewest at 9
         DUE.is("20: the last", x.best(0), 2);
         DUE.is("36: far down", x.edge(0, 0), 2);
+    }
+
+    /** By law a COST of 99 alone forbids the first STEP. */
+    private static void edgeAtTheTop() {
+        SugarBelow x = new SugarBelow();
+        x.thing(0, 98, 98);
+        x.step(0, 99);
+        x.law(1);
+        DUE.is("36: from 0 to 99", x.edge(0, 0), 99);
+        DUE.is("36: from 98 to 99", x.edge(1, 0), 99);
+        x.set(0, 0, 0, 99);
+        DUE.is("36: from 99 down", x.edge(0, 0), 98);
+        x.law(0);
+        DUE.is("36: without law", x.edge(0, 0), -6);
     }
 
     private static void images() {
