@@ -960,9 +960,11 @@ public final class SugarBelow {
             int here = -people.far[sort * SHOPS];
             int there = -people.far[sort * SHOPS + 1];
             int both = here + there;
+            // cell() written out: nothing is asked as often as this
+            int first = sort * SHOPS * THINGS;
             for (int thing = 0; thing < goods.things; thing++) {
-                int gainHere = thought[cell(sort, 0, thing)];
-                int gainThere = thought[cell(sort, 1, thing)];
+                int gainHere = thought[(first + thing) * STEPS + goods.at[thing]];
+                int gainThere = thought[(first + THINGS + thing) * STEPS + goods.at[THINGS + thing]];
                 side[thing] = gainThere > gainHere ? 1 : 0;
                 here += gainHere;
                 there += gainThere;
