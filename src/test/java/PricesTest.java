@@ -7,6 +7,7 @@ public final class PricesTest {
         lure();
         lawful();
         climbing();
+        climbingAgain();
         brings();
         only();
         round();
@@ -98,6 +99,26 @@ public final class PricesTest {
         x.change(0, 1, 50);
         DUE.is("22: it stays below cost if nothing is more", x.climb(0), 0);
         DUE.is("19: a question changes nothing", x.row(0), 0);
+    }
+
+    /** Both things move, and then the first once more. */
+    private static void climbingAgain() {
+        SugarBelow x = new SugarBelow();
+        x.thing(0, 0, 3);
+        x.step(0, 6);
+        x.step(0, 9);
+        x.thing(0, 0, 4);
+        x.step(1, 9);
+        // one who comes if a and b are below 13 together, five who want b at 4
+        x.sort(1, 7, 99, 0);
+        Due.write(x, 0, "a1<10;b1<10");
+        x.sort(5, 0, 99, 0);
+        Due.write(x, 1, "b1<5");
+        x.set(0, 0, 2, 2);
+        x.set(0, 1, 2, 1);
+        // a to 3 (12 are left), b to 4 (3 + 4 + 20), a to 6 (6 + 4 + 20); with a at 9 the one stays away
+        DUE.is("22: a, b, and a again", x.climb(0), 2);
+        DUE.is("21: left there", x.most(0, 1), 30);
     }
 
     private static void brings() {
