@@ -380,7 +380,8 @@ public final class SugarBelow {
         if (noSort(sort) || noShop(shop) || noThing(thing) || town.people.want[sort * THINGS + thing] == 0) {
             return LOST + UNKNOWN;
         }
-        if (isOut(n, 1, TOP_WEEKS) || isOut(weeks, 0, (1 << n) - 1) || isOut(what, 0, 2)) {
+        // the document tells no range for the bits: those of weeks that are not gone through say nothing
+        if (isOut(n, 1, TOP_WEEKS) || isOut(what, 0, 2)) {
             return LOST + OUTSIDE;
         }
         pantry.live(sort, shop, thing, weeks, n);

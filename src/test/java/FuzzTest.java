@@ -117,7 +117,7 @@ public final class FuzzTest {
     private void home() {
         int n = random.nextInt(20) == 0 ? STRANGE[random.nextInt(STRANGE.length)] : 1 + random.nextInt(12);
         int high = 1 << Math.max(1, Math.min(n, 12));
-        int weeks = random.nextInt(10) == 0 ? STRANGE[random.nextInt(STRANGE.length)] : random.nextInt(high);
+        int weeks = random.nextInt(5) == 0 ? random.nextInt() : random.nextInt(high);
         int what = random.nextInt(20) == 0 ? 3 : random.nextInt(3);
         both.ask("home", some(both.oracle.told(1)), random.nextInt(2), some(both.oracle.told(0)), weeks, n, what);
     }

@@ -8,6 +8,7 @@ public final class WeeksTest {
         shown();
         hurt();
         home();
+        homeBitsBehind();
         homeRefused();
         DUE.end();
     }
@@ -133,6 +134,19 @@ public final class WeeksTest {
         DUE.is("31: left by it", x.home(0, 0, 1, 3, 2, 1), 30);
     }
 
+    /** No range is told for the bits: those behind the n-th week, the highest (below 0) too, do not matter. */
+    private static void homeBitsBehind() {
+        SugarBelow x = pantry();
+        isHome(x, "a bit right behind", 1 << 2, 2, 4, 28, 0);
+        isHome(x, "weeks 0 and 2 of 6, and all behind", 5 | -1 << 6, 6, 12, 40, 0);
+        isHome(x, "week 0 of 1, and all behind", -1, 1, 7, 21, 5);
+        isHome(x, "none of 1, and all behind", -2, 1, 2, 14, 0);
+        isHome(x, "none of 12, the 13th", 1 << 12, 12, 24, 24 * 7, 0);
+        isHome(x, "all of 12, and all behind", -1, 12, 29, 29 * 3, 5);
+        isHome(x, "none of 12, the highest bit", Integer.MIN_VALUE, 12, 24, 24 * 7, 0);
+        isHome(x, "all but the highest bit", Integer.MAX_VALUE, 12, 29, 29 * 3, 5);
+    }
+
     private static void homeRefused() {
         SugarBelow x = pantry();
         x.thing(1, 1, 1);
@@ -146,9 +160,7 @@ public final class WeeksTest {
         DUE.is("31: no weeks", x.home(0, 0, 0, 0, 0, 0), LOST - 2);
         DUE.is("31: too many weeks", x.home(0, 0, 0, 0, 13, 0), LOST - 2);
         DUE.is("31: weeks below 0", x.home(0, 0, 0, 0, -1, 0), LOST - 2);
-        DUE.is("31: bits below 0", x.home(0, 0, 0, -1, 12, 0), LOST - 2);
-        DUE.is("31: bits of weeks that are not", x.home(0, 0, 0, 4096, 12, 0), LOST - 2);
-        DUE.is("31: a bit of a week that is not", x.home(0, 0, 0, 4, 2, 0), LOST - 2);
+        DUE.is("31: too many weeks, bits of them", x.home(0, 0, 0, -1, 13, 0), LOST - 2);
         DUE.is("31: what", x.home(0, 0, 0, 0, 1, 3), LOST - 2);
         DUE.is("31: what -1", x.home(0, 0, 0, 0, 1, -1), LOST - 2);
     }
