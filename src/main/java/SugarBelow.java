@@ -11,6 +11,7 @@ public final class SugarBelow {
     private static final int SHOPS = 2, THINGS = 4, STEPS = 3, SORTS = 5, SLIPS = 30, SIGNS = 40;
     private static final int MOST_ROWS = 81, IMAGES = 2;
     private static final int TOP = 99, TOP_HEAD = 3, TOP_SHELF = 6, TOP_WEEKS = 12, TOP_BITS = 15;
+    private static final int TOP_WEEK_BITS = (1 << TOP_WEEKS) - 1;
     private static final int WAY_BOTH = 1, WAY_BELOW = 2;
     /** Where a SORT GOES: bit 0 for SHOP 0, bit 1 for SHOP 1. */
     private static final int NOWHERE = 0, TO_FIRST = 1, TO_SECOND = 2, TO_BOTH = 3;
@@ -380,8 +381,8 @@ public final class SugarBelow {
         if (noSort(sort) || noShop(shop) || noThing(thing) || town.people.want[sort * THINGS + thing] == 0) {
             return LOST + UNKNOWN;
         }
-        // the document tells no range for the bits: those of weeks that are not gone through say nothing
-        if (isOut(n, 1, TOP_WEEKS) || isOut(what, 0, 2)) {
+        // bits of twelve weeks, however many are gone through: those behind the n-th say nothing
+        if (isOut(weeks, 0, TOP_WEEK_BITS) || isOut(n, 1, TOP_WEEKS) || isOut(what, 0, 2)) {
             return LOST + OUTSIDE;
         }
         pantry.live(sort, shop, thing, weeks, n);

@@ -117,8 +117,25 @@ public final class FuzzTest {
     private void home() {
         int n = random.nextInt(20) == 0 ? STRANGE[random.nextInt(STRANGE.length)] : 1 + random.nextInt(12);
         int high = 1 << Math.max(1, Math.min(n, 12));
-        int weeks = random.nextInt(5) == 0 ? random.nextInt() : random.nextInt(high);
+        int weeks = strangeWeeks(random.nextInt(20), random.nextInt(high));
         int what = random.nextInt(20) == 0 ? 3 : random.nextInt(3);
         both.ask("home", some(both.oracle.told(1)), random.nextInt(2), some(both.oracle.told(0)), weeks, n, what);
+    }
+
+    /** Bits behind the n-th week, right at and behind the twelfth, any at all; else those given. */
+    private int strangeWeeks(int kind, int usual) {
+        switch (kind) {
+            case 0:
+                return random.nextInt();
+            case 1:
+                return 4090 + random.nextInt(12);
+            case 2:
+                return -1 - random.nextInt(3);
+            case 3:
+            case 4:
+                return random.nextInt(4096);
+            default:
+                return usual;
+        }
     }
 }

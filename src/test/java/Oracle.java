@@ -682,7 +682,7 @@ final class Oracle {
         if (!isSort(sort) || !in(shop, 0, 1) || !isThing(t) || !now.folks.get(sort).list.containsKey(t)) {
             return LOST - 1;
         }
-        if (!in(n, 1, 12) || !in(what, 0, 2)) {
+        if (!in(n, 1, 12) || !in(what, 0, 2) || !in(weeks, 0, 4095)) {
             return LOST - 2;
         }
         Ware w = now.wares.get(t);

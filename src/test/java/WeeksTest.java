@@ -9,6 +9,7 @@ public final class WeeksTest {
         hurt();
         home();
         homeBitsBehind();
+        homeBitsOfNoWeek();
         homeRefused();
         DUE.end();
     }
@@ -134,17 +135,26 @@ public final class WeeksTest {
         DUE.is("31: left by it", x.home(0, 0, 1, 3, 2, 1), 30);
     }
 
-    /** No range is told for the bits: those behind the n-th week, the highest (below 0) too, do not matter. */
+    /** The bits are of twelve weeks: those of them behind the n-th are taken and do not matter. */
     private static void homeBitsBehind() {
         SugarBelow x = pantry();
         isHome(x, "a bit right behind", 1 << 2, 2, 4, 28, 0);
-        isHome(x, "weeks 0 and 2 of 6, and all behind", 5 | -1 << 6, 6, 12, 40, 0);
-        isHome(x, "week 0 of 1, and all behind", -1, 1, 7, 21, 5);
-        isHome(x, "none of 1, and all behind", -2, 1, 2, 14, 0);
-        isHome(x, "none of 12, the 13th", 1 << 12, 12, 24, 24 * 7, 0);
-        isHome(x, "all of 12, and all behind", -1, 12, 29, 29 * 3, 5);
-        isHome(x, "none of 12, the highest bit", Integer.MIN_VALUE, 12, 24, 24 * 7, 0);
-        isHome(x, "all but the highest bit", Integer.MAX_VALUE, 12, 29, 29 * 3, 5);
+        isHome(x, "weeks 0 and 2 of 6, and all behind", 5 | 4095 << 6 & 4095, 6, 12, 40, 0);
+        isHome(x, "week 0 of 1, and all behind", 4095, 1, 7, 21, 5);
+        isHome(x, "none of 1, and all behind", 4094, 1, 2, 14, 0);
+        isHome(x, "none of 11, the 12th", 1 << 11, 11, 22, 22 * 7, 0);
+    }
+
+    private static void homeBitsOfNoWeek() {
+        SugarBelow x = pantry();
+        int[] strange = {-1, -2, -4096, 1 << 12, 1 << 12 | 1, 4096 + 4095, 1 << 30, Integer.MIN_VALUE, Integer.MAX_VALUE};
+        for (int weeks : strange) {
+            isHome(x, "bits of no week, " + weeks, weeks, 1, LOST - 2, LOST - 2, LOST - 2);
+            isHome(x, "bits of no week of 12, " + weeks, weeks, 12, LOST - 2, LOST - 2, LOST - 2);
+            DUE.is("31: no sort, and bits of no week, " + weeks, x.home(1, 0, 0, weeks, 1, 0), LOST - 1);
+            DUE.is("31: not there, and bits of no week, " + weeks, x.home(0, 0, 1, weeks, 1, 0), LOST - 1);
+        }
+        isHome(x, "refusals change nothing", 5, 6, 12, 40, 0);
     }
 
     private static void homeRefused() {
@@ -160,7 +170,7 @@ public final class WeeksTest {
         DUE.is("31: no weeks", x.home(0, 0, 0, 0, 0, 0), LOST - 2);
         DUE.is("31: too many weeks", x.home(0, 0, 0, 0, 13, 0), LOST - 2);
         DUE.is("31: weeks below 0", x.home(0, 0, 0, 0, -1, 0), LOST - 2);
-        DUE.is("31: too many weeks, bits of them", x.home(0, 0, 0, -1, 13, 0), LOST - 2);
+        DUE.is("31: too many weeks, bits of them", x.home(0, 0, 0, 4095, 13, 0), LOST - 2);
         DUE.is("31: what", x.home(0, 0, 0, 0, 1, 3), LOST - 2);
         DUE.is("31: what -1", x.home(0, 0, 0, 0, 1, -1), LOST - 2);
     }
