@@ -62,6 +62,15 @@ final class Both {
         }
     }
 
+    /** The class's answer alone, of any object of it. */
+    static long askClass(SugarBelow whose, String call, int... numbers) {
+        Object[] given = new Object[numbers.length];
+        for (int i = 0; i < numbers.length; i++) {
+            given[i] = numbers[i];
+        }
+        return answer(MINE, whose, call, given);
+    }
+
     void write(int sort, String text) {
         for (int i = 0; i < text.length(); i++) {
             ask("say", text.charAt(i));

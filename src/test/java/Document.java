@@ -1,0 +1,84 @@
+import java.io.IOException;
+import java.io.UncheckedIOException;
+import java.nio.file.Files;
+import java.nio.file.Path;
+import java.util.Arrays;
+
+/** ../shared/DOC.md: words that a test quotes must stand there, and no words of it may be left unquoted. */
+final class Document {
+    private static final int PROMISES = 39;
+
+    private final String text;
+    private final boolean[] quoted;
+    /** Where the terms (0) and each promise begin and end. */
+    private final int[] begins = new int[PROMISES + 1];
+    private final int[] ends = new int[PROMISES + 1];
+
+    Document() {
+        try {
+            text = Files.readString(Path.of("../shared/DOC.md")).replaceAll("\\s+", " ");
+        } catch (IOException e) {
+            throw new UncheckedIOException(e);
+        }
+        quoted = new boolean[text.length()];
+        for (int promise = 0; promise <= PROMISES; promise++) {
+            String head = promise == 0 ? "## Terms " : "## Promise " + promise + ": ";
+            begins[promise] = mustFind(head, 0, text.length()) + head.length();
+            int end = text.indexOf(" ## ", begins[promise]);
+            ends[promise] = end < 0 ? text.length() : end;
+        }
+        passOver();
+    }
+
+    private int mustFind(String words, int from, int to) {
+        int place = text.indexOf(words, from);
+        if (place < 0 || place + words.length() > to) {
+            throw new IllegalStateException("the document does not say: " + words);
+        }
+        return place;
+    }
+
+    /** Headings, the names of calls and what the interface says ahead of them need no test of their own. */
+    private void passOver() {
+        for (int promise = 1; promise <= PROMISES; promise++) {
+            int from = begins[promise];
+            mark(from, text.indexOf("`:", from) + 2);
+        }
+        int ahead = mustFind("Ahead of the calls", begins[0], ends[0]);
+        mark(ahead, ends[0]);
+        for (int part = 1; part <= 5; part++) {
+            String head = "======== " + part;
+            int place = mustFind(head, begins[0], ends[0]);
+            mark(place, place + head.length());
+        }
+        for (int place = text.indexOf("```text"); place >= 0; place = text.indexOf("```text", place + 1)) {
+            mark(place, place + "```text".length());
+        }
+    }
+
+    private void mark(int from, int to) {
+        Arrays.fill(quoted, from, to, true);
+    }
+
+    /** The words stand in the promise, or else in the terms. */
+    void quote(int promise, String words) {
+        int place = text.indexOf(words, begins[promise]);
+        if (place < 0 || place + words.length() > ends[promise]) {
+            place = mustFind(words, begins[0], ends[0]);
+        }
+        mark(place, place + words.length());
+    }
+
+    /** Letters and digits that no test has quoted are wrong answers. */
+    void isWhole(Due due) {
+        for (int promise = 0; promise <= PROMISES; promise++) {
+            StringBuilder left = new StringBuilder();
+            for (int i = begins[promise]; i < ends[promise]; i++) {
+                boolean open = !quoted[i] && (Character.isLetterOrDigit(text.charAt(i)) || left.length() > 0 && text.charAt(i) == ' ');
+                left.append(open ? text.charAt(i) : '_');
+            }
+            String words = left.toString().replaceAll("_+", " .. ").replaceAll("( \\.\\. )( *\\.\\. )*", "$1").trim();
+            due.is("promise " + promise + ": not put to the test: " + words, words.replaceAll("[ .]", "").isEmpty() ? 0 : 1, 0);
+        }
+    }
+}
