@@ -1,4 +1,5 @@
 import java.util.ArrayList;
+import java.util.Arrays;
 import java.util.List;
 
 /**
@@ -33,26 +34,30 @@ final class Script {
         String name = promise + ": \"" + words + "\", " + tried;
         List<Call> calls = read(text);
         Both both = new Both(name);
-        String before = null;
+        // what is seen ahead of the call, where the one before has left it as it was
+        String seen = null;
         for (int i = 0; i < calls.size(); i++) {
             Call call = calls.get(i);
             long got = both.ask(call.name, call.numbers);
-            String told = name + ": call " + (i + 1) + ", " + call.name + java.util.Arrays.toString(call.numbers);
-            boolean refused = isRefusal(call.name, got);
-            if (call.due == null) {
-                due.is(told + " must not be refused:", refused ? got : 0, 0);
+            String told = name + ": call " + (i + 1) + ", " + call.name + Arrays.toString(call.numbers);
+            isAnswer(told, call, got);
+            if (isRefusal(call.name, got) || !CHANGING.contains(call.name)) {
+                String before = seen == null ? see(calls, i) : seen;
+                seen = see(calls, i + 1);
+                due.is(told + " changed what was\n" + before + "to\n" + seen + "which", before.equals(seen) ? 0 : 1, 0);
             } else {
-                due.is(told, got, answerOf(call));
-            }
-            if (refused || !CHANGING.contains(call.name)) {
-                String seen = before == null ? see(calls, i) : before;
-                before = see(calls, i + 1);
-                due.is(told + " changed what was " + seen + " to " + before + ":", seen.equals(before) ? 0 : 1, 0);
-            } else {
-                before = null;
+                seen = null;
             }
         }
-        due.is(name + ": the oracle answers otherwise", both.isWrong() ? 1 : 0, 0);
+        due.is(name + ": the oracle answers otherwise, which", both.isWrong() ? 1 : 0, 0);
+    }
+
+    private void isAnswer(String told, Call call, long got) {
+        if (call.due == null) {
+            due.is(told + " must not be refused, and", isRefusal(call.name, got) ? got : 0, 0);
+        } else {
+            due.is(told, got, answerOf(call));
+        }
     }
 
     private static boolean isRefusal(String name, long answer) {

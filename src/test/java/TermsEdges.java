@@ -174,13 +174,15 @@ final class TermsEdges {
             write 0 a1<5~3 = 1 | thinks 0 0 = 1 | saves 0 = -1
             """);
         script.test(0, "Numbers that may be below 0", "left, most, brings, home", """
-            thing 6 6 5 | sort 1 0 9 0 | write 0 a1<9 = 1 | left 0 = -1 | most 0 0 = -1 | most 0 1 = -1 | most 0 2 = -1
+            thing 6 6 5 | sort 1 0 9 0 | write 0 a1<9 = 1 | left 0 = -1 | most 0 0 = -1 | most 0 1 = -1
+            most 0 2 = -1
             home 0 0 0 0 1 1 = -1 | home 0 0 0 0 5 1 = -5 | step 0 10 | brings 0 0 = -1 | most 0 0 = 0
             """);
     }
 
     private void fractions() {
-        script.test(0, "Fractions are told by part: 0 the upper, 1 the lower number, in lowest terms.", "2 of 6, 4 of 6", """
+        script.test(0, "Fractions are told by part: 0 the upper, 1 the lower number, in lowest terms.",
+            "2 of 6, 4 of 6", """
             slip 3 | slip 2 | slip 0 | chance 0 1 0 = 2 | chance 0 1 1 = 3 | chance 1 0 0 = 2 | chance 1 0 1 = 3
             slip 0 | slip 0 | slip 0 | chance 0 1 0 = 1 | chance 0 1 1 = 3
             """);

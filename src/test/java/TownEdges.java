@@ -90,7 +90,8 @@ final class TownEdges {
             told 0 = 4 | told 19 = 6 | set 0 3 0 0 = 4 | set 1 3 0 0 = 5
             """);
         script.test(2, "FULL", "and again room, when fewer are restored", """
-            image 0 | times 4 thing 1 1 1 = 3 | thing 2 2 2 = FULL | thing 2 2 2 = FULL | restore 0 = 1 | thing 2 2 2 = 0
+            image 0 | times 4 thing 1 1 1 = 3 | thing 2 2 2 = FULL | thing 2 2 2 = FULL | restore 0 = 1
+            thing 2 2 2 = 0
             told 10 = 2 | told 13 = NONE
             """);
         script.test(2, "Each SHOP has each THING at a STEP (0 at first)", "of each THING", """
@@ -98,7 +99,8 @@ final class TownEdges {
             set 0 0 2 0 = 0 | set 0 1 2 0 = 0 | set 0 2 2 0 = 0 | set 0 3 2 0 = 0
             set 1 0 2 0 = 0 | set 1 1 2 0 = 0 | set 1 2 2 0 = 0 | set 1 3 2 0 = 0
             """);
-        script.test(2, "HEAD: of a THING nobody gets more than so many in a SHOP (0 to 3; 3 at first).", "at first", """
+        script.test(2, "HEAD: of a THING nobody gets more than so many in a SHOP (0 to 3; 3 at first).",
+            "at first", """
             times 4 thing 1 1 1 = 3
             set 0 0 1 0 = 3 | set 0 1 1 0 = 3 | set 0 2 1 0 = 3 | set 0 3 1 0 = 3
             set 1 0 1 0 = 3 | set 1 1 1 0 = 3 | set 1 2 1 0 = 3 | set 1 3 1 0 = 3
@@ -167,7 +169,8 @@ final class TownEdges {
             thing 7 8 1 | step 0 2 | thing 7 8 1 | set 0 1 2 1 = UNKNOWN | set 0 0 2 1 = 0
             """);
         script.test(4, "UNKNOWN", "no such SHOP, no such THING, whatever is set", """
-            thing 7 8 1 | set -1 0 0 1 = UNKNOWN | set 2 0 1 1 = UNKNOWN | set 0 -1 0 1 = UNKNOWN | set 1 1 1 1 = UNKNOWN
+            thing 7 8 1 | set -1 0 0 1 = UNKNOWN | set 2 0 1 1 = UNKNOWN | set 0 -1 0 1 = UNKNOWN
+            set 1 1 1 1 = UNKNOWN
             set 0 1 2 0 = UNKNOWN | set 2 0 2 0 = UNKNOWN | set 0 1 3 0 = UNKNOWN | set 2 0 -1 0 = UNKNOWN
             """);
         script.test(4, "OUTSIDE", "what is neither of the three", """
@@ -176,13 +179,15 @@ final class TownEdges {
             """);
         script.test(4, "which it was", "each SHOP and THING has its own", """
             times 4 thing 7 8 1 = 3 | set 0 2 0 50 = 7 | set 0 1 0 1 = 7 | set 0 3 0 1 = 7 | set 1 2 0 1 = 8
-            set 0 2 1 1 = 3 | set 0 1 1 2 = 3 | set 0 3 1 2 = 3 | set 1 2 1 2 = 3 | set 0 2 0 50 = 50 | set 0 2 1 1 = 1
+            set 0 2 1 1 = 3 | set 0 1 1 2 = 3 | set 0 3 1 2 = 3 | set 1 2 1 2 = 3 | set 0 2 0 50 = 50
+            set 0 2 1 1 = 1
             """);
     }
 
     private void show() {
         script.test(5, "OUTSIDE: bits 0 to 15", "the lowest and the highest", """
-            show 0 -1 = OUTSIDE | show 0 16 = OUTSIDE | show 0 MIN = OUTSIDE | show 0 MAX = OUTSIDE | show 1 16 = OUTSIDE
+            show 0 -1 = OUTSIDE | show 0 16 = OUTSIDE | show 0 MIN = OUTSIDE | show 0 MAX = OUTSIDE
+            show 1 16 = OUTSIDE
             show 1 -1 = OUTSIDE | show 0 0 = 0 | show 0 15 = 0 | show 0 1 = 15 | show 1 15 = 0 | show 1 0 = 15
             """);
         script.test(5, "WINDOW of a SHOP: which it was.", "each SHOP has its own", """
@@ -190,7 +195,8 @@ final class TownEdges {
             """);
         script.test(5, "UNKNOWN", "no such SHOP", "show -1 1 = UNKNOWN | show 2 1 = UNKNOWN | show 2 -1 = UNKNOWN");
         script.test(5, "WINDOW: THINGS that a SHOP shows (bits; none at first).", "THINGS that are not there yet", """
-            sort 1 0 9 0 | write 0 b1<9~9 = 1 | show 0 2 = 0 | thing 1 1 1 | thinks 0 0 = 0 | thing 1 1 4 | thinks 0 0 = 5
+            sort 1 0 9 0 | write 0 b1<9~9 = 1 | show 0 2 = 0 | thing 1 1 1 | thinks 0 0 = 0 | thing 1 1 4
+            thinks 0 0 = 5
             show 0 13 = 2 | thinks 0 0 = 0
             """);
     }
@@ -221,10 +227,18 @@ final class TownEdges {
             """);
         script.test(6, "FULL", "the fifth and the sixth", """
             sort 1 0 0 0 = 0 | sort 1 0 0 0 = 1 | sort 1 0 0 0 = 2 | sort 1 0 0 0 = 3 | sort 9 8 7 2 = 4
-            sort 1 0 0 0 = FULL | told 1 = 5 | change 4 0 1 = 9 | change 4 1 1 = 8 | change 4 2 1 = 7 | change 4 3 1 = 2
+            sort 1 0 0 0 = FULL | told 1 = 5 | change 4 0 1 = 9 | change 4 1 1 = 8 | change 4 2 1 = 7
+            change 4 3 1 = 2
             """);
         script.test(6, "OUTSIDE", "also when there are five", """
             times 5 sort 1 0 0 0 = 4 | sort 0 0 0 0 = OUTSIDE | sort 1 0 0 3 = OUTSIDE | sort 1 0 0 0 = FULL
+            """);
+        script.test(6, "A SORT (with an empty LIST)", "the LISTS of those before stay", """
+            sort 1 0 0 0 | write 0 a1<1;b1<2;c1<3;d1<4 = 4 | sort 1 0 0 0 | write 1 a2<1;b2<2;c2<3;d2<4 = 4
+            sort 1 0 0 0 | sort 1 0 0 0
+            item 0 0 0 = 1 | item 0 1 1 = 2 | item 0 2 0 = 1 | item 0 3 1 = 4 | item 1 0 0 = 2 | item 1 1 0 = 2
+            item 1 2 0 = 2
+            item 1 3 0 = 2 | item 2 0 0 = NONE | item 3 3 0 = NONE
             """);
         script.test(6, "A SORT (with an empty LIST)", "also where another one was, that is not restored", """
             image 0 | sort 9 9 9 2 = 0 | write 0 a1<9;d2<8~7 = 2 | change 0 4 6 | restore 0 | sort 1 1 1 1 = 0
@@ -254,11 +268,13 @@ final class TownEdges {
             change 0 4 MAX = OUTSIDE | change 0 4 6 = 0 | change 0 4 0 = 6 | change 0 4 3 = 0
             """);
         script.test(7, "UNKNOWN", "no such SORT, whatever is changed", """
-            change 0 0 1 = UNKNOWN | sort 5 6 7 1 | change 1 0 1 = UNKNOWN | change -1 1 1 = UNKNOWN | change 5 4 1 = UNKNOWN
+            change 0 0 1 = UNKNOWN | sort 5 6 7 1 | change 1 0 1 = UNKNOWN | change -1 1 1 = UNKNOWN
+            change 5 4 1 = UNKNOWN
             change 1 5 1 = UNKNOWN | change 1 4 7 = UNKNOWN
             """);
         script.test(7, "OUTSIDE", "what is neither of the five", """
-            sort 5 6 7 1 | change 0 -1 1 = OUTSIDE | change 0 5 1 = OUTSIDE | change 0 MIN 1 = OUTSIDE | change 0 MAX 1 = OUTSIDE
+            sort 5 6 7 1 | change 0 -1 1 = OUTSIDE | change 0 5 1 = OUTSIDE | change 0 MIN 1 = OUTSIDE
+            change 0 MAX 1 = OUTSIDE
             """);
         script.test(7, "which it was", "each SORT has its own", """
             sort 5 6 7 1 | sort 15 16 17 2 | change 0 0 9 | change 0 1 9 | change 0 2 9 | change 0 3 0 | change 0 4 4
@@ -269,7 +285,8 @@ final class TownEdges {
 
     private void say() {
         script.test(8, "(codes 33 to 126)", "the lowest and the highest", """
-            say 32 = OUTSIDE | say 127 = OUTSIDE | say 0 = OUTSIDE | say -1 = OUTSIDE | say MIN = OUTSIDE | say MAX = OUTSIDE
+            say 32 = OUTSIDE | say 127 = OUTSIDE | say 0 = OUTSIDE | say -1 = OUTSIDE | say MIN = OUTSIDE
+            say MAX = OUTSIDE
             told 3 = 0 | say 33 = 1 | say 126 = 2 | say 32 = OUTSIDE | told 3 = 2
             """);
         script.test(8, "(codes 33 to 126)", "codes that are such but for what is above 8 or 16 bits", """
@@ -281,7 +298,8 @@ final class TownEdges {
         script.test(8, "A sign more: how many.", "signs that can not stand there are taken, too", """
             say 33 = 1 | fault = 0 | say 33 = 2 | say 97 = 3 | fault = 0 | told 3 = 3
             """);
-        script.test(8, "OUTSIDE", "also when there are 40", "times 40 say 97 = 40 | say 127 = OUTSIDE | say 32 = OUTSIDE");
+        script.test(8, "OUTSIDE",
+            "also when there are 40", "times 40 say 97 = 40 | say 127 = OUTSIDE | say 32 = OUTSIDE");
         script.test(8, "FULL", "also of a text without a FAULT before", """
             says d3<99~99;c3<99~99;b3<99~99;a3<99~99 = 35 | fault = NONE | times 5 say 33 = 40 | fault = 35
             say 33 = FULL | fault = 35
@@ -347,7 +365,8 @@ final class TownEdges {
         isFault("THE FAULT: the place (from 0 on) of the first sign that can not stand there", 4,
             "a1<5aaaaaaaaaaaaaaaaaaaaaaaaaaaaaaaaaaaa");
         script.test(10, "THE FAULT; NONE.", "it is asked again and again", """
-            says a1<5;a = 6 | fault = 5 | fault = 5 | told 3 = 6 | wipe = 6 | says a1<5 = 4 | fault = NONE | fault = NONE
+            says a1<5;a = 6 | fault = 5 | fault = 5 | told 3 = 6 | wipe = 6 | says a1<5 = 4 | fault = NONE
+            fault = NONE
             told 3 = 4
             """);
     }
@@ -366,7 +385,8 @@ final class TownEdges {
             item 0 3 0 = 1 | item 0 2 0 = NONE | item 1 2 0 = 3 | wipe = 0
             """);
         script.test(11, "The signs are a SORT's LIST", "what was on it before is not on it", """
-            sort 1 0 0 0 | write 0 a1<5~7;b2<6 = 2 | write 0 a2<8 = 1 | item 0 0 0 = 2 | item 0 0 1 = 8 | item 0 0 2 = NONE
+            sort 1 0 0 0 | write 0 a1<5~7;b2<6 = 2 | write 0 a2<8 = 1 | item 0 0 0 = 2 | item 0 0 1 = 8
+            item 0 0 2 = NONE
             item 0 1 0 = NONE | item 0 1 1 = NONE | item 0 1 2 = NONE
             """);
         script.test(11, "The signs are a SORT's LIST", "of that SORT alone, of the first and of the last", """
@@ -388,7 +408,8 @@ final class TownEdges {
             sort 1 0 0 0 | says a1<5! = 5 | list 0 = NO | told 3 = 5 | list 0 = NO | item 0 0 0 = NONE
             """);
         script.test(11, "those that there are not are on the LIST, too, and wanted from when they are there", "b", """
-            sort 2 0 9 0 | write 0 b1<9 = 1 | item 0 1 1 = 9 | thing 0 0 3 | goes 0 = 0 | left 0 = 0 | thing 0 0 4 | goes 0 = 1
+            sort 2 0 9 0 | write 0 b1<9 = 1 | item 0 1 1 = 9 | thing 0 0 3 | goes 0 = 0 | left 0 = 0 | thing 0 0 4
+            goes 0 = 1
             buys 0 0 1 = 1 | left 0 = 8
             """);
     }
@@ -405,7 +426,8 @@ final class TownEdges {
             """);
         script.test(12, "NONE: it is not on the LIST", "whatever is asked", """
             sort 1 0 0 0 | item 0 0 0 = NONE | item 0 0 1 = NONE | item 0 0 2 = NONE | write 0 b1<5~6 = 1
-            item 0 0 0 = NONE | item 0 0 1 = NONE | item 0 0 2 = NONE | item 0 1 0 = 1 | item 0 2 0 = NONE | item 0 3 1 = NONE
+            item 0 0 0 = NONE | item 0 0 1 = NONE | item 0 0 2 = NONE | item 0 1 0 = 1 | item 0 2 0 = NONE
+            item 0 3 1 = NONE
             """);
         script.test(12, "Of a SORT and a THING (0 to 3, there or not)", "of THINGS that are not there", """
             sort 1 0 0 0 | write 0 d2<5~6 = 1 | told 0 = 0 | item 0 3 0 = 2 | item 0 0 0 = NONE | item 0 4 0 = UNKNOWN

@@ -25,8 +25,10 @@ final class WalksEdges {
     }
 
     private void takenFor() {
-        script.test(14, "A SORT takes a price in a SHOP for the real one, if it KNOWS it,", "in each SHOP its own", """
-            thing 10 12 8 | step 0 15 | set 1 0 2 1 | sort 3 2 4 0 | write 0 a2<20 = 1 | thinks 0 0 = 22 | thinks 0 1 = 6
+        script.test(14, "A SORT takes a price in a SHOP for the real one, if it KNOWS it,",
+            "in each SHOP its own", """
+            thing 10 12 8 | step 0 15 | set 1 0 2 1 | sort 3 2 4 0 | write 0 a2<20 = 1 | thinks 0 0 = 22
+            thinks 0 1 = 6
             show 0 1 | show 1 15 | thinks 0 0 = 22 | thinks 0 1 = 6 | show 0 0 | thinks 0 0 = 22
             """);
         script.test(14, "or it is in the WINDOW there;", "there, not in the other SHOP, and not another THING", """
@@ -35,27 +37,33 @@ final class WalksEdges {
             show 1 1 | thinks 0 0 = 14 | thinks 0 1 = 6 | show 1 14 | thinks 0 1 = 12
             """);
         script.test(14, "or it is in the WINDOW there;", "the last THING", """
-            times 4 thing 1 1 8 = 3 | sort 1 0 0 0 | write 0 d2<20~12 = 1 | thinks 0 0 = 16 | show 0 8 | thinks 0 0 = 24
+            times 4 thing 1 1 8 = 3 | sort 1 0 0 0 | write 0 d2<20~12 = 1 | thinks 0 0 = 16 | show 0 8
+            thinks 0 0 = 24
             show 0 7 | thinks 0 0 = 16 | show 0 15 | thinks 0 0 = 24
             """);
         script.test(14, "else for its GUESS.", "whatever the price is", """
-            thing 10 12 8 | step 0 15 | sort 3 2 4 0 | write 0 a2<20~12 = 1 | thinks 0 0 = 14 | set 0 0 2 1 | thinks 0 0 = 14
+            thing 10 12 8 | step 0 15 | sort 3 2 4 0 | write 0 a2<20~12 = 1 | thinks 0 0 = 14 | set 0 0 2 1
+            thinks 0 0 = 14
             write 0 a2<20~0 = 1 | thinks 0 0 = 38 | write 0 a2<20~99 = 1 | thinks 0 0 = -2
             """);
     }
 
     private void worth() {
-        script.test(16, "An ITEM is WANTED in a SHOP at some price, if WORTH is no less than that", "the price, one less", """
+        script.test(16, "An ITEM is WANTED in a SHOP at some price, if WORTH is no less than that",
+            "the price, one less", """
             thing 0 0 7 | thing 0 0 0 | sort 1 0 9 0 | write 0 a2<7;b1<5 = 2 | thinks 0 0 = 5 | buys 0 0 0 = 2
-            write 0 a2<6;b1<5 = 2 | thinks 0 0 = 5 | buys 0 0 0 = 0 | write 0 a2<8;b1<5 = 2 | thinks 0 0 = 7 | buys 0 0 0 = 2
+            write 0 a2<6;b1<5 = 2 | thinks 0 0 = 5 | buys 0 0 0 = 0 | write 0 a2<8;b1<5 = 2 | thinks 0 0 = 7
+            buys 0 0 0 = 2
             """);
         script.test(16, "if WORTH is no less than that", "nothing, and the most", """
             thing 0 0 0 | thing 0 0 99 | thing 0 0 0 | sort 1 0 9 0 | write 0 a1<0;b1<99;c1<1 = 3
             thinks 0 0 = 1 | buys 0 0 0 = 1 | buys 0 0 1 = 1 | write 0 a1<0;b1<98;c1<1 = 3 | buys 0 0 1 = 0
             """);
-        script.test(14, "its GAIN is so many times what WORTH is above that price, else 0.", "a GUESS at WORTH, around it", """
+        script.test(14, "its GAIN is so many times what WORTH is above that price, else 0.",
+            "a GUESS at WORTH, around it", """
             thing 0 0 7 | sort 1 0 9 0 | write 0 a3<7~7 = 1 | thinks 0 0 = 0 | write 0 a3<7~8 = 1 | thinks 0 0 = 0
-            write 0 a3<7~6 = 1 | thinks 0 0 = 3 | write 0 a3<7~99 = 1 | thinks 0 0 = 0 | write 0 a3<99~0 = 1 | thinks 0 0 = 297
+            write 0 a3<7~6 = 1 | thinks 0 0 = 3 | write 0 a3<7~99 = 1 | thinks 0 0 = 0 | write 0 a3<99~0 = 1
+            thinks 0 0 = 297
             """);
         script.test(14, "else 0.", "what is too dear takes nothing from the others", """
             thing 0 0 50 | thing 0 0 1 | sort 1 0 9 0 | write 0 a3<2;b1<4 = 2 | thinks 0 0 = 3
@@ -64,7 +72,8 @@ final class WalksEdges {
 
     private void belowCost() {
         script.test(14, "(and, WAY 2, that is below the SHOP's COST)", "at COST, one below", """
-            thing 8 7 7 | sort 1 0 0 2 | write 0 a2<9 = 1 | thinks 0 0 = 4 | thinks 0 1 = 0 | goes 0 = 1 | buys 0 0 0 = 2
+            thing 8 7 7 | sort 1 0 0 2 | write 0 a2<9 = 1 | thinks 0 0 = 4 | thinks 0 1 = 0 | goes 0 = 1
+            buys 0 0 0 = 2
             set 0 0 0 7 = 8 | thinks 0 0 = 0 | goes 0 = 0 | set 1 0 0 8 | thinks 0 1 = 4 | goes 0 = 2 | buys 0 1 0 = 2
             set 0 0 0 99 | set 1 0 0 0 | thinks 0 0 = 4 | thinks 0 1 = 0
             """);
@@ -76,10 +85,12 @@ final class WalksEdges {
             thing 0 1 0 | sort 1 0 0 2 | write 0 a1<9 = 1 | thinks 0 0 = 0 | thinks 0 1 = 9
             """);
         script.test(16, "2 to one, for THINGS below that SHOP's COST alone.", "the one of two", """
-            thing 8 8 7 | thing 7 7 7 | sort 1 0 9 2 | write 0 a1<9;b1<9 = 2 | thinks 0 0 = 2 | buys 0 0 0 = 1 | buys 0 0 1 = 0
+            thing 8 8 7 | thing 7 7 7 | sort 1 0 9 2 | write 0 a1<9;b1<9 = 2 | thinks 0 0 = 2 | buys 0 0 0 = 1
+            buys 0 0 1 = 0
             saves 0 = 2 | left 0 = -1
             """);
-        script.test(16, "for THINGS below that SHOP's COST alone.", "it is thought by the GUESS, bought by the price", """
+        script.test(16, "for THINGS below that SHOP's COST alone.",
+            "it is thought by the GUESS, bought by the price", """
             thing 10 10 8 | step 0 10 | sort 1 0 9 2 | write 0 a1<20~9 = 1 | thinks 0 0 = 11 | buys 0 0 0 = 1
             set 0 0 2 1 | thinks 0 0 = 11 | goes 0 = 1 | buys 0 0 0 = 0 | saves 0 = 0
             write 0 a1<20~10 = 1 | thinks 0 0 = 0 | goes 0 = 0 | set 0 0 2 0 | thinks 0 0 = 0 | buys 0 0 0 = 0
@@ -98,13 +109,15 @@ final class WalksEdges {
             }
         }
         script.test(16, "HEAD: of a THING nobody gets more than so many in a SHOP", "in that SHOP alone", """
-            thing 0 0 1 | sort 1 0 0 0 | write 0 a3<6 = 1 | set 0 0 1 2 | thinks 0 0 = 10 | thinks 0 1 = 15 | goes 0 = 2
+            thing 0 0 1 | sort 1 0 0 0 | write 0 a3<6 = 1 | set 0 0 1 2 | thinks 0 0 = 10 | thinks 0 1 = 15
+            goes 0 = 2
             buys 0 1 0 = 3
             """);
     }
 
     private void thinksOfOne() {
-        script.test(14, "THINKS of a SHOP: GAINS at what it takes prices for, less FAR.", "nothing, and 0 to 99 away", """
+        script.test(14, "THINKS of a SHOP: GAINS at what it takes prices for, less FAR.",
+            "nothing, and 0 to 99 away", """
             thing 0 0 1 | sort 1 0 99 0 | thinks 0 0 = 0 | thinks 0 1 = -99 | thinks 0 2 = -99
             change 0 1 99 | thinks 0 0 = -99 | thinks 0 2 = -198
             """);
@@ -113,21 +126,24 @@ final class WalksEdges {
             thinks 0 1 = 1187 | thinks 0 2 = 1187
             """);
         script.test(14, "THINKS of SHOP 0 (what = 0), 1 (1)", "how many there are of the SORT does not matter", """
-            thing 0 0 1 | sort 99 2 3 0 | write 0 a1<7 = 1 | thinks 0 0 = 4 | thinks 0 1 = 3 | change 0 0 1 | thinks 0 0 = 4
+            thing 0 0 1 | sort 99 2 3 0 | write 0 a1<7 = 1 | thinks 0 0 = 4 | thinks 0 1 = 3 | change 0 0 1
+            thinks 0 0 = 4
             """);
     }
 
     private void thinksOfBoth() {
         script.test(14, "BOTH (WAY 1): each ITEM in the SHOP where that GAIN is greater", "one in each", """
             thing 0 0 3 | step 0 5 | thing 0 0 3 | step 1 5 | set 0 0 2 1 | set 1 1 2 1 | sort 1 0 0 1
-            write 0 a1<9;b1<9 = 2 | thinks 0 0 = 10 | thinks 0 1 = 10 | thinks 0 2 = 12 | buys 0 1 0 = 1 | buys 0 0 1 = 1
+            write 0 a1<9;b1<9 = 2 | thinks 0 0 = 10 | thinks 0 1 = 10 | thinks 0 2 = 12 | buys 0 1 0 = 1
+            buys 0 0 1 = 1
             """);
         script.test(14, "together, less FAR of both.", "both ways", """
             thing 0 0 3 | sort 1 2 5 1 | write 0 a1<9 = 1 | thinks 0 2 = -1 | change 0 1 0 | thinks 0 2 = 1
             change 0 2 0 | thinks 0 2 = 6
             """);
         script.test(14, "BOTH (2; as if by WAY 1).", "of WAY 0, of WAY 2, which asks for what is below COST else", """
-            thing 5 5 3 | thing 2 2 3 | sort 1 0 0 0 | write 0 a1<9;b1<9 = 2 | thinks 0 2 = 12 | change 0 3 1 | thinks 0 2 = 12
+            thing 5 5 3 | thing 2 2 3 | sort 1 0 0 0 | write 0 a1<9;b1<9 = 2 | thinks 0 2 = 12 | change 0 3 1
+            thinks 0 2 = 12
             change 0 3 2 | thinks 0 0 = 6 | thinks 0 1 = 6 | thinks 0 2 = 12
             """);
     }
@@ -150,7 +166,8 @@ final class WalksEdges {
             buys 0 0 1 = UNKNOWN | thing 1 1 1 | buys 0 0 1 = 1
             """);
         script.test(17, "UNKNOWN (LOST less 1)", "no such SORT", """
-            saves 0 = -1000000000000000001 | sort 1 0 0 0 | saves 1 = -1000000000000000001 | saves -1 = UNKNOWN | saves 0 = 0
+            saves 0 = -1000000000000000001 | sort 1 0 0 0 | saves 1 = -1000000000000000001 | saves -1 = UNKNOWN
+            saves 0 = 0
             """);
         script.test(18, "UNKNOWN (LOST less 1)", "no such SHOP", """
             left 2 = -1000000000000000001 | left -1 = -1000000000000000001 | left MIN = UNKNOWN | left MAX = UNKNOWN
@@ -174,7 +191,8 @@ final class WalksEdges {
             change 0 1 5 | goes 0 = 1 | change 0 1 4 | goes 0 = 1 | change 0 2 3 | goes 0 = 2
             """);
         script.test(15, "of like ones to the first of these in this order.", "SHOP 0 and 1", """
-            thing 0 0 3 | sort 1 2 2 0 | write 0 a1<9 = 1 | goes 0 = 1 | change 0 3 1 | goes 0 = 1 | change 0 1 3 | goes 0 = 2
+            thing 0 0 3 | sort 1 2 2 0 | write 0 a1<9 = 1 | goes 0 = 1 | change 0 3 1 | goes 0 = 1 | change 0 1 3
+            goes 0 = 2
             """);
         script.test(15, "of like ones to the first of these in this order.", "nowhere and both", """
             thing 0 0 3 | thing 0 0 3 | set 1 0 1 0 | set 0 1 1 0 | sort 1 5 5 1 | write 0 a1<8;b1<8 = 2
@@ -218,7 +236,8 @@ final class WalksEdges {
             buys 0 0 0 = 0 | buys 0 1 0 = 3
             """);
         script.test(16, "what is WANTED at real prices.", "WORTH and one more", """
-            thing 0 0 8 | step 0 9 | sort 1 0 9 0 | write 0 a2<8~1 = 1 | buys 0 0 0 = 2 | set 0 0 2 1 | goes 0 = 1 | buys 0 0 0 = 0
+            thing 0 0 8 | step 0 9 | sort 1 0 9 0 | write 0 a2<8~1 = 1 | buys 0 0 0 = 2 | set 0 0 2 1 | goes 0 = 1
+            buys 0 0 0 = 0
             """);
         script.test(16, "what is WANTED at real prices.", "what it thought too dear, and is not", """
             thing 0 0 8 | thing 0 0 1 | sort 1 0 9 0 | write 0 a2<8~99;b1<3 = 2 | thinks 0 0 = 2 | buys 0 0 0 = 2
@@ -249,8 +268,10 @@ final class WalksEdges {
             write 0 a2<9~1 = 1 | saves 0 = 10 | write 0 a2<3~1 = 1 | thinks 0 0 = 2 | saves 0 = -2
             """);
         script.test(17, "less FAR of where it GOES (one of it).", "nowhere, one, both", """
-            thing 0 0 3 | thing 0 0 3 | set 1 0 1 0 | set 0 1 1 0 | sort 9 90 90 1 | write 0 a1<9;b1<9 = 2 | saves 0 = 0
-            change 0 1 5 | goes 0 = 1 | saves 0 = 1 | change 0 2 5 | goes 0 = 3 | saves 0 = 2 | change 0 1 90 | goes 0 = 2 | saves 0 = 1
+            thing 0 0 3 | thing 0 0 3 | set 1 0 1 0 | set 0 1 1 0 | sort 9 90 90 1 | write 0 a1<9;b1<9 = 2
+            saves 0 = 0
+            change 0 1 5 | goes 0 = 1 | saves 0 = 1 | change 0 2 5 | goes 0 = 3 | saves 0 = 2 | change 0 1 90
+            goes 0 = 2 | saves 0 = 1
             """);
         script.test(17, "SAVES.", "the least and the most", """
             thing 0 0 99 | thing 0 0 99 | set 1 0 1 0 | set 0 1 1 0 | sort 1 99 99 1 | write 0 a3<98~0;b3<98~0 = 2
@@ -261,11 +282,13 @@ final class WalksEdges {
 
     private void left() {
         script.test(18, "LEFT of a SHOP: what all of all SORTS buy there", "all of each SORT, of that SHOP", """
-            thing 1 2 5 | sort 3 0 9 0 | sort 4 0 9 0 | sort 5 9 0 0 | write 0 a1<9 = 1 | write 1 a2<9 = 1 | write 2 a3<9 = 1
+            thing 1 2 5 | sort 3 0 9 0 | sort 4 0 9 0 | sort 5 9 0 0 | write 0 a1<9 = 1 | write 1 a2<9 = 1
+            write 2 a3<9 = 1
             left 0 = 44 | left 1 = 45 | change 0 0 1 | left 0 = 36
             """);
         script.test(18, "price less COST each.", "above, at and below COST", """
-            thing 4 5 5 | sort 3 0 9 0 | write 0 a1<9 = 1 | left 0 = 3 | set 0 0 0 5 | left 0 = 0 | set 0 0 0 6 | left 0 = -3
+            thing 4 5 5 | sort 3 0 9 0 | write 0 a1<9 = 1 | left 0 = 3 | set 0 0 0 5 | left 0 = 0 | set 0 0 0 6
+            left 0 = -3
             change 0 1 9 | change 0 2 0 | left 0 = 0 | left 1 = 0 | set 1 0 0 0 | left 1 = 15
             """);
         script.test(18, "LEFT of a SHOP", "the most: all that can be bought, dear", """
@@ -287,15 +310,20 @@ final class WalksEdges {
 
     private void row() {
         script.test(19, "The ROW of a SHOP.", "the first and the last of 81", """
-            row 0 = 0 | thing 0 0 1 | row 0 = 0 | step 0 2 | step 0 3 | thing 0 0 1 | step 1 2 | step 1 3 | thing 0 0 1
-            step 2 2 | step 2 3 | thing 0 0 1 | step 3 2 | step 3 3 | row 1 = 0 | set 1 0 2 2 | row 1 = 54 | set 1 1 2 2
+            row 0 = 0 | thing 0 0 1 | row 0 = 0 | step 0 2 | step 0 3 | thing 0 0 1 | step 1 2 | step 1 3
+            thing 0 0 1
+            step 2 2 | step 2 3 | thing 0 0 1 | step 3 2 | step 3 3 | row 1 = 0 | set 1 0 2 2 | row 1 = 54
+            set 1 1 2 2
             row 1 = 72 | set 1 2 2 2 | row 1 = 78 | set 1 3 2 2 | row 1 = 80 | row 0 = 0 | told 5 = 81
             """);
         script.test(19, "its ROW is that as a number: THING 0's STEP counts most", "two THINGS", """
-            thing 0 0 1 | step 0 2 | thing 0 0 1 | step 1 2 | set 0 0 2 1 | row 0 = 2 | set 0 0 2 0 | set 0 1 2 1 | row 0 = 1
+            thing 0 0 1 | step 0 2 | thing 0 0 1 | step 1 2 | set 0 0 2 1 | row 0 = 2 | set 0 0 2 0 | set 0 1 2 1
+            row 0 = 1
             """);
-        script.test(19, "each by how many STEPS the THINGS behind have.", "of one, two, three STEPS, and one more", """
-            thing 0 0 1 | step 0 2 | set 0 0 2 1 | row 0 = 1 | thing 0 0 1 | row 0 = 1 | step 1 2 | row 0 = 2 | step 1 3
+        script.test(19, "each by how many STEPS the THINGS behind have.",
+            "of one, two, three STEPS, and one more", """
+            thing 0 0 1 | step 0 2 | set 0 0 2 1 | row 0 = 1 | thing 0 0 1 | row 0 = 1 | step 1 2 | row 0 = 2
+            step 1 3
             row 0 = 3 | thing 0 0 1 | step 2 9 | row 0 = 6 | set 0 2 2 1 | row 0 = 7 | set 0 1 2 2 | row 0 = 11
             """);
         script.test(19, "Each SHOP has each THING at a STEP", "a STEP more does not move it", """
