@@ -6,15 +6,17 @@ import java.util.Arrays;
 
 /** ../shared/DOC.md: words that a test quotes must stand there, and no words of it may be left unquoted. */
 final class Document {
+    /** 'What it is' is quoted as if it were one promise more. */
+    static final int WHAT_IT_IS = 40;
     private static final int PROMISES = 39;
     private static final Path PLACE = Path.of("../shared/DOC.md");
 
     /** Empty if the document is not at hand: then the calls are tested all the same. */
     private final String text;
     private final boolean[] quoted;
-    /** Where the terms (0) and each promise begin and end. */
-    private final int[] begins = new int[PROMISES + 1];
-    private final int[] ends = new int[PROMISES + 1];
+    /** Where the terms (0), each promise, and 'What it is' begin and end. */
+    private final int[] begins = new int[WHAT_IT_IS + 1];
+    private final int[] ends = new int[WHAT_IT_IS + 1];
 
     Document() {
         text = read();
@@ -23,13 +25,20 @@ final class Document {
             System.out.println(PLACE + " is not there: what the tests quote is not looked up");
             return;
         }
-        for (int promise = 0; promise <= PROMISES; promise++) {
-            String head = promise == 0 ? "## Terms " : "## Promise " + promise + ": ";
+        for (int promise = 0; promise <= WHAT_IT_IS; promise++) {
+            String head = headOf(promise);
             begins[promise] = find(head, 0, text.length()) + head.length();
             int end = text.indexOf(" ## ", begins[promise]);
             ends[promise] = end < 0 ? text.length() : end;
         }
         passOver();
+    }
+
+    private static String headOf(int promise) {
+        if (promise == WHAT_IT_IS) {
+            return "## What it is ";
+        }
+        return promise == 0 ? "## Terms " : "## Promise " + promise + ": ";
     }
 
     private static String read() {
@@ -83,14 +92,15 @@ final class Document {
 
     /** Letters and digits that no test has quoted are wrong answers. */
     void isWhole(Due due) {
-        for (int promise = 0; promise <= PROMISES; promise++) {
+        for (int promise = 0; promise <= WHAT_IT_IS; promise++) {
             StringBuilder left = new StringBuilder();
             for (int i = begins[promise]; i < ends[promise]; i++) {
                 left.append(quoted[i] ? '.' : text.charAt(i));
             }
             int open = left.toString().replaceAll("[^A-Za-z0-9]", "").length();
             String words = left.toString().replaceAll("\\.[ .]*\\.", " .. ");
-            due.is("promise " + promise + " (0: terms), letters that no test quotes: " + words, open, 0);
+            String where = "promise " + promise + " (0: terms, 40: what it is)";
+            due.is(where + ", letters that no test quotes: " + words, open, 0);
         }
     }
 }

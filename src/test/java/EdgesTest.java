@@ -6,14 +6,17 @@ public final class EdgesTest {
         Due due = new Due();
         Document document = new Document();
         Script script = new Script(due, document);
+        WhatEdges.all(script);
         TermsEdges.all(script);
         TownEdges.all(script);
         WalksEdges.all(script);
         PricesEdges.all(script);
         WeeksEdges.all(script);
         SlipsEdges.all(script);
-        document.isWhole(due);
+        document.quote(Document.WHAT_IT_IS, "An object is used for at most 512 calls after it has been made; "
+            + "what later calls answer is free.");
         lastCall(due);
+        document.isWhole(due);
         due.end();
     }
 

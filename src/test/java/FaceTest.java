@@ -1,7 +1,10 @@
+import java.io.IOException;
 import java.lang.reflect.Constructor;
 import java.lang.reflect.Field;
 import java.lang.reflect.Method;
 import java.lang.reflect.Modifier;
+import java.nio.file.Files;
+import java.nio.file.Path;
 import java.util.Arrays;
 import java.util.HashSet;
 import java.util.Set;
@@ -19,7 +22,10 @@ public final class FaceTest {
         "long home(int,int,int,int,int,int)", "int slip(int)", "int burn()", "int with(int,int)",
         "long chance(int,int,int)", "int edge(int,int)", "int image(int)", "int restore(int)", "int told(int)"};
 
-    public static void main(String[] args) {
+    private static final Path DOCUMENT = Path.of("../shared/DOC.md");
+    private static final Path SOURCE = Path.of("src/main/java/SugarBelow.java");
+
+    public static void main(String[] args) throws IOException {
         Due due = new Due();
         Set<String> seen = new TreeSet<>();
         Set<String> publicNames = new HashSet<>();
@@ -38,7 +44,32 @@ public final class FaceTest {
         due.is("constructor's parameters", constructors[0].getParameterCount(), 0);
         due.is("constructor public", Modifier.isPublic(constructors[0].getModifiers()) ? 1 : 0, 1);
         due.is("class final", Modifier.isFinal(SugarBelow.class.getModifiers()) ? 1 : 0, 1);
+        due.is("class public", Modifier.isPublic(SugarBelow.class.getModifiers()) ? 1 : 0, 1);
+        asTheDocumentHasIt(due);
         due.end();
+    }
+
+    /** Each line of 'The public face' stands in the class, in the document's order, with the same names of numbers. */
+    private static void asTheDocumentHasIt(Due due) throws IOException {
+        if (!Files.exists(DOCUMENT)) {
+            System.out.println(DOCUMENT + " is not there: its lines are not looked up");
+            return;
+        }
+        String document = Files.readString(DOCUMENT);
+        int begin = document.indexOf("```java\n", document.indexOf("## The public face"));
+        String[] lines = document.substring(begin, document.indexOf("}\n```", begin)).split("\n");
+        String source = Files.readString(SOURCE);
+        int place = 0;
+        int seen = 0;
+        for (int i = 1; i < lines.length; i++) {
+            boolean isCall = lines[i].endsWith(");");
+            String line = isCall ? lines[i].substring(0, lines[i].length() - 1) + " {\n" : lines[i] + "\n";
+            int found = source.indexOf("\n" + line, Math.max(0, place - 1));
+            due.is("stands in the class, behind the lines ahead of it: " + lines[i], found < 0 ? 0 : 1, 1);
+            place = found < 0 ? place : found + line.length();
+            seen += isCall ? 1 : 0;
+        }
+        due.is("calls and constructors of the document's face", seen, FACE.length + 1);
     }
 
     private static String told(Method method) {

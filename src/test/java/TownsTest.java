@@ -32,10 +32,11 @@ public final class TownsTest {
         }
         int[] seen = {rings, boths, hurts, climbsShort, windows, refusals, edges, manyRests};
         StringBuilder text = new StringBuilder("seen:");
-        boolean enough = true;
+        // of fewer towns than are usual nothing can be asked but that none goes wrong
+        boolean enough = towns > 0;
         for (int number : seen) {
             text.append(' ').append(number);
-            enough &= number > 20;
+            enough &= number > 20 || towns < TOWNS;
         }
         System.out.println(text + (enough ? "" : " (too few)"));
         System.out.println(towns + " towns, " + wrong + " went wrong");
